@@ -677,8 +677,9 @@ public final class SquaredPaper {
 
         private static boolean hasCrossing(Figure f) {
             for (int a = 0; a < f.corners; a++) {
+                int end = f.nextOf(a);
                 for (int b = 0; b < a; b++) {
-                    if (f.linesCross(a, f.nextOf(a), b, f.nextOf(b))) {
+                    if (f.linesCross(a, end, b, f.nextOf(b))) {
                         return true;
                     }
                 }
@@ -689,8 +690,9 @@ public final class SquaredPaper {
         /** Sides that do not cross have a wrong point in common just if a corner is on a side that it does not end. */
         private static boolean hasTouching(Figure f) {
             for (int side = 0; side < f.corners; side++) {
+                int end = f.nextOf(side);
                 for (int c = 0; c < f.corners; c++) {
-                    if (f.cornerOnLine(c, side, f.nextOf(side))) {
+                    if (f.cornerOnLine(c, side, end)) {
                         return true;
                     }
                 }
@@ -698,14 +700,14 @@ public final class SquaredPaper {
             return false;
         }
 
+        /** The first corner stands for its ring: rings that do not meet lie on one side of each other as a whole. */
         private static boolean hasLostHole(Figure f) {
-            for (int around = 0; around < f.rings; around++) {
-                for (int r = 1; r < f.rings; r++) {
-                    for (int k = 0; r != around && k < f.sizeOf(r); k++) {
-                        int c = f.at(r, k);
-                        if (f.surrounds(around, 2 * f.xOf(c), 2 * f.yOf(c)) != (around == 0)) {
-                            return true;
-                        }
+            for (int r = 1; r < f.rings; r++) {
+                int c = f.firstOf(r);
+                for (int around = 0; around < f.rings; around++) {
+                    boolean in = f.surrounds(around, 2 * f.xOf(c), 2 * f.yOf(c));
+                    if (around != r && in != (around == 0)) {
+                        return true;
                     }
                 }
             }
