@@ -5,6 +5,12 @@ final class Check {
     }
 
     private int wrong;
+    private String under = "";
+
+    /** What the lines of the following reports begin with. */
+    void under(String newUnder) {
+        under = newUnder;
+    }
 
     void due(String what, long want, Call call) {
         String got = answerOf(call);
@@ -29,7 +35,7 @@ final class Check {
 
     void report(String line) {
         wrong++;
-        System.out.println(line);
+        System.out.println(under + line);
     }
 
     int wrong() {

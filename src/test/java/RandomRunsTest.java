@@ -27,6 +27,8 @@ public final class RandomRunsTest {
         "Fahhaiemdpiojlkfo",
         "Fcolooolkpjnjmendlbam",
         "Faamapokpnnaobk/fgdkdldmfihjhgkd/gbfdkcffdjdiefee",
+        Figures.FULL,
+        Figures.STUCK,
     };
 
     private final Check check = new Check();
