@@ -34,7 +34,7 @@ final class Sentences {
     void holds(String words, Object... steps) {
         check.under("[" + place + ": " + words + "] ");
         held.get(place).add(words);
-        if (!places.getOrDefault(place, "").contains(words)) {
+        if (!places.isEmpty() && !places.getOrDefault(place, "").contains(words)) {
             check.report("these words do not stand in the document");
         }
         Runner runner = new Runner(check);
@@ -73,6 +73,10 @@ final class Sentences {
 
     /** The terms part at headings that are written in capitals, and where the face is told once more. */
     private void read() throws IOException {
+        if (!Files.exists(DOCUMENT)) {
+            System.out.println("there is no " + DOCUMENT + ": the tests run, but their words are compared with nothing");
+            return;
+        }
         String heading = "";
         for (String line : Files.readString(DOCUMENT).split("\n")) {
             String folded = line.replace("`", "").replaceFirst("^- ", "").replaceAll("\\s+", " ").trim();
