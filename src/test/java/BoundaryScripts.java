@@ -46,7 +46,8 @@ final class BoundaryScripts {
         s.holds("3 r k 0 0 0: remove(r, k).", "given " + HOLED, "runScript 2 302000700015 = NONE", "runScript 2 302000700016 = 1",
             "runScript 1 303000 = 0", "runScript 1 304000 = 0", "runScript 1 309000 = 0", "runScript 1 310000 = 0", "runScript 1 320000 = 0",
             "runScript 1 390000 = 0", "runScript 1 302001 = 0", "runScript 1 302010 = 0", "runScript 1 302100 = 0",
-            "runScript 2 302000302000 = 1", "new", "runScript 1 303000 = NONE", "runScript 1 304000 = 0", "given Faapappap/bbdbddbd", "runScript 2 313000700446 = NONE", "runScript 2 313000700447 = 1",
+            "runScript 2 302000302000 = 1", "new", "runScript 1 303000 = NONE", "runScript 1 304000 = 0",
+            "given Faapappap/bbdbddbd", "runScript 2 313000700446 = NONE", "runScript 2 313000700447 = 1",
             "runScript 1 314000 = 0", "given " + Figures.FULL, "runScript 2 339000700404 = NONE", "runScript 2 339000700405 = 1",
             "runScript 1 340000 = 0");
         s.holds("4 x x y y 0: addHole(xx, yy).", "given Faapappap", "runScript 2 401010700449 = NONE", "runScript 2 401010700450 = 1",

@@ -41,7 +41,8 @@ final class BoundaryWouldBe {
         s.holds("k: corner of the outline", "given " + Figures.ROUND, "cut 0 = 15", "cut 9 = 12", "cut 10 ! IOOBE", "cut -1 ! IOOBE");
         s.holds("Returns the doubled area of the triangle of it and the corners before and behind it if it is an ear, otherwise NONE.",
             "given " + Figures.NOTCH, "cut 0 = NONE", "cut 1 = NONE", "cut 2 = 16", "cut 3 = 12", "cut 4 = NONE", "cut 5 = NONE",
-            "cut 6 = 12", "cut 7 = 16", "mirror = 15", "cut 0 = NONE", "cut 2 = 16", "cut 3 = 12", "cut 4 = NONE", "cut 7 = 16", "given Faaeaae", "cut 0 = NONE", "cut 2 = NONE", "given Faacacbab", "cut 0 = 2",
+            "cut 6 = 12", "cut 7 = 16", "mirror = 15", "cut 0 = NONE", "cut 2 = 16", "cut 3 = 12", "cut 4 = NONE", "cut 7 = 16",
+            "given Faaeaae", "cut 0 = NONE", "cut 2 = NONE", "given Faacacbab", "cut 0 = 2",
             "given Fcaeaeeaeaa", "cut 0 = NONE", "cut 1 = 8", "given Faapappap/hbjbhd", "cut 1 = 225", "given Faapappap/hhjhhj",
             "cut 1 = NONE");
         s.holds("Throws IndexOutOfBoundsException if the outline has no such corner", "lived Faapappap/bbdbddcfbd", "cut 2 = 225",
