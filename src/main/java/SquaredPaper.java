@@ -405,7 +405,7 @@ public final class SquaredPaper {
         }
 
         int sizeOf(int r) {
-            return hasRing(r) ? sizes[r] : 0;
+            return r >= 0 && r < rings ? sizes[r] : 0;
         }
 
         int firstOf(int r) {
@@ -433,7 +433,7 @@ public final class SquaredPaper {
         }
 
         int priorOf(int r, int k) {
-            return at(r, k > 0 ? k - 1 : sizeOf(r) - 1);
+            return firstOf(r) + (k > 0 ? k : sizeOf(r)) - 1;
         }
 
         // ---- changes

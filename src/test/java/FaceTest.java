@@ -1,8 +1,11 @@
+import java.io.IOException;
 import java.lang.reflect.Constructor;
 import java.lang.reflect.Field;
 import java.lang.reflect.Member;
 import java.lang.reflect.Method;
 import java.lang.reflect.Modifier;
+import java.nio.file.Files;
+import java.nio.file.Path;
 import java.util.ArrayList;
 import java.util.Arrays;
 import java.util.Collections;
@@ -43,7 +46,7 @@ public final class FaceTest {
         "int restore(int) " + INDEX + " " + STATE,
     };
 
-    public static void main(String[] args) {
+    public static void main(String[] args) throws IOException {
         Check check = new Check();
         Class<?> paper = SquaredPaper.class;
         check.same("the class's modifiers", "public final", Modifier.toString(paper.getModifiers()));
@@ -69,7 +72,25 @@ public final class FaceTest {
             }
         }
         checkInside(check, paper, names);
+        checkWords(check);
         check.end();
+    }
+
+    /** The document writes the face as the source does, with the names of the arguments and in the same order. */
+    private static void checkWords(Check check) throws IOException {
+        List<String> due = linesOfTheFace(Path.of("../shared/DOC.md"));
+        check.same("the face of the document has " + FACE.length + " methods, a constructor and a constant", FACE.length + 2, due.size());
+        check.same("the face in the source", String.join("\n", due), String.join("\n", linesOfTheFace(Path.of("src/main/java/SquaredPaper.java"))));
+    }
+
+    private static List<String> linesOfTheFace(Path file) throws IOException {
+        List<String> lines = new ArrayList<>();
+        for (String line : Files.readAllLines(file)) {
+            if (line.startsWith("    public ")) {
+                lines.add(line.replaceFirst(" \\{$", ";"));
+            }
+        }
+        return lines;
     }
 
     private static boolean seen(Member m) {

@@ -8,7 +8,7 @@ import java.util.Map;
 
 /**
  * Tests that are named by the place and the words of the document's sentence that they hold: the words must stand in
- * the document, and each sentence of the terms and the promises must have a test.
+ * the document, and each of its sentences must have a test, but for the face's (see FaceTest) and what is not promised.
  */
 final class Sentences {
     private static final Path DOCUMENT = Path.of("../shared/DOC.md");
@@ -50,12 +50,9 @@ final class Sentences {
         check.under("");
     }
 
-    /** Reports what stands in the terms and the promises, and is held by no test. */
+    /** Reports what stands in the document and is held by no test. */
     void checkNothingIsLeftOver() {
         for (Map.Entry<String, String> one : places.entrySet()) {
-            if (one.getKey().equals("What it is")) {
-                continue;
-            }
             String left = one.getValue();
             StringBuilder marked = new StringBuilder(left);
             for (String words : held.getOrDefault(one.getKey(), List.of())) {
