@@ -50,9 +50,11 @@ final class BoundarySlots {
             calls.add("shift 1 0 = 5");
             calls.add("shift -1 0 = 4");
         }
+        // the last of these is the 512th call
         for (int left = 13; left >= 0; left--) {
             calls.add("undo = " + left);
         }
-        s.holds("An object is used for at most 512 calls after it has been made;", "new", calls.toArray(new String[0]));
+        s.holds("An object is used for at most 512 calls after it has been made; what later calls answer is free.", "new",
+            calls.toArray(new String[0]));
     }
 }

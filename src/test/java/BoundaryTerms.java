@@ -23,9 +23,6 @@ final class BoundaryTerms {
             + " moves that make the figure greatest.", "new", "move 0 1 2 6 ! ISE", "move 0 2 2 0 ! ISE", "insert 0 1 15 2 = 76",
             "about 2 = 76", "about 3 = 14", "about 4 = 32", "about 7 = 5", "about 8 = 76", "about 9 = 5", "addHole 1 1 = 1", "about 2 = 75",
             "remove 0 2 = 31", "bestMove = 10", "move 0 1 5 0 = 35", "figure = Faafaeeae/bbcbbc");
-        // the last call is the 512th
-        s.holds("An object is used for at most 512 calls after it has been made; what later calls answer is free.", "new",
-            "again 500 turn = 4", "mirror = 15", "again 8 shift 0 0 = 15", "save 0 = 4", "undo = 13", "restore 0 = 4");
     }
 
     private static void start(Sentences s) {
